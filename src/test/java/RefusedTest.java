@@ -70,11 +70,12 @@ public final class RefusedTest {
         return p;
     }
 
-    /** All there is to see. Each line is asked on an object of its own, for the sake of the 512 calls. */
+    /** All there is to see. Each line is asked on objects of its own, for the sake of the 512 calls. */
     private static long[] answersAfter(int lines, List<Refused> calls) {
         List<Long> answers = new ArrayList<>();
         for (int line = 0; line < lines; line++) {
             askOfLine(answers, circuitAfter(lines, calls), line);
+            askOfFaults(answers, circuitAfter(lines, calls), lines, line);
         }
         askOfAll(answers, circuitAfter(lines, calls));
         askWhatComesNext(answers, circuitAfter(lines, calls));
@@ -87,6 +88,18 @@ public final class RefusedTest {
             answers.add((long) p.value(line, vector));
             answers.add(p.shows(vector, line, 0) ? 1L : 0L);
             answers.add(p.shows(vector, line, 1) ? 1L : 0L);
+        }
+    }
+
+    private static void askOfFaults(List<Long> answers, TestPatterns p, int lines, int line) {
+        for (int v = 0; v <= 1; v++) {
+            answers.add((long) p.test(line, v));
+            answers.add((long) p.testFrom(line, v, 1));
+            answers.add((long) p.testFrom(line, v, 16));
+            for (int other = 0; other < lines; other++) {
+                answers.add(p.alike(line, v, other, 0) ? 1L : 0L);
+                answers.add(p.alike(line, v, other, 1) ? 1L : 0L);
+            }
         }
     }
 
@@ -128,6 +141,7 @@ public final class RefusedTest {
         }
         calls.add(new Refused("testFrom(0, 0, 32)", NONE, p -> p.testFrom(0, 0, 32)));
         calls.add(new Refused("testFrom(1, 1, " + GREATEST + ")", NONE, p -> p.testFrom(1, 1, GREATEST)));
+        addOfAFaultNotShown(calls, lines);
         return calls;
     }
 
@@ -175,5 +189,16 @@ public final class RefusedTest {
         calls.add(new Refused("hidden(" + v + ")", 0, p -> p.hidden(v)));
         calls.add(new Refused("alike(1, " + v + ", 1, 0)", 0, p -> p.alike(1, v, 1, 0) ? 1 : 0));
         calls.add(new Refused("alike(1, 0, 1, " + v + ")", 0, p -> p.alike(1, 0, 1, v) ? 1 : 0));
+    }
+
+    private static void addOfAFaultNotShown(List<Refused> calls, int lines) {
+        // Line 1 is 1 with vector 31, so that vector never shows it stuck at 1.
+        calls.add(new Refused("testFrom(1, 1, 31)", NONE, p -> p.testFrom(1, 1, 31)));
+        // The circuit does not watch line 2, and no gate before line 14 uses it (line 9 is a NOT).
+        if (lines <= 14) {
+            calls.add(new Refused("test(2, 0)", NONE, p -> p.test(2, 0)));
+            calls.add(new Refused("test(2, 1)", NONE, p -> p.test(2, 1)));
+            calls.add(new Refused("testFrom(2, 0, 0)", NONE, p -> p.testFrom(2, 0, 0)));
+        }
     }
 }
